@@ -83,6 +83,11 @@ public final class FillTest {
         Check.is("none is needed", x.fill(6, 576, 1, 64), 640);
         Check.is("one is needed", x.fill(8, 0, 1, 64), 64);
         Check.is("none is left", x.fill(8, 1, 1, 64), LogFs.NONE);
+        LogFs y = Disks.withFreeBlocks(0);
+        y.truncate(6);
+        Disks.addBlocks(y, 6, 9);
+        Check.is("one is left", y.count(1), 1);
+        Check.is("the tenth block needs no indirect one", y.fill(6, 576, 1, 64), 640);
     }
 
     /** Ten that are pending and five more are as many as the log has blocks. */

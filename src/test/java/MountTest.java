@@ -4,6 +4,7 @@ public final class MountTest {
         withThePowerOn();
         withoutALog();
         withALog();
+        withALogOfOneBlock();
         failsInBetween();
         theLogInMemory();
         aFailureStillToCome();
@@ -52,6 +53,20 @@ public final class MountTest {
         Check.disk("the entry", x, 26, 0, 2, 'f');
         Check.is("mount again", x.mount(), 0);
         Check.is("writes", x.count(3), 8);
+    }
+
+    private static void withALogOfOneBlock() {
+        LogFs x = Disks.withFile();
+        x.fill(1, 0, 1, 1);
+        x.sync();
+        x.fill(1, 0, 2, 1);
+        x.failAfter(2);
+        Check.powerFails("sync", x::sync);
+        Check.disk("not in its place", x, 27, 0, 1);
+        Check.is("mount", x.mount(), 1);
+        Check.disk("in its place", x, 27, 0, 2);
+        Check.disk("the head has nothing", x, 1, 0, 0, 0);
+        Check.is("read", x.read(1, 0), 2);
     }
 
     private static void failsInBetween() {

@@ -11,6 +11,15 @@ public final class RandomTest {
     private static final int FAILS = -1002;
     private static final int OUTSIDE = -1003;
 
+    /** Of a hundred calls; runs of the second kind make long directories, those of the third a full disk. */
+    private static final int[] LOOKS = {40, 10, 10, 40};
+    private static final int[] POWERS = {6, 1, 1, 2};
+
+    /** Of a hundred changes; the rest of them are writes. */
+    private static final int[] ENTERS = {30, 90, 4, 60};
+    private static final int[] UNLINKS = {6, 2, 1, 6};
+    private static final int[] TRUNCATES = {2, 1, 1, 2};
+
     private final Random random;
     private final int run;
     private final int kind;
@@ -28,7 +37,8 @@ public final class RandomTest {
     public static void main(String[] args) {
         for (int run = 0; run < RUNS; run++) {
             RandomTest test = new RandomTest(run);
-            for (int call = 0; call < CALLS && !test.wrong; call++) {
+            test.makeFiles();
+            for (int call = 10; call < CALLS && !test.wrong; call++) {
                 test.oneCall();
             }
         }
@@ -41,9 +51,9 @@ public final class RandomTest {
             return;
         }
         int pick = random.nextInt(100);
-        if (pick < 40) {
+        if (pick < LOOKS[kind]) {
             look();
-        } else if (pick < 94 || kind == 0 && pick < 96) {
+        } else if (pick < 100 - POWERS[kind]) {
             change();
         } else {
             power();
@@ -51,16 +61,15 @@ public final class RandomTest {
     }
 
     private void change() {
-        int pick = random.nextInt(100);
-        int most = kind == 1 ? 60 : kind == 2 ? 15 : 30;
-        if (pick < most) {
+        int pick = random.nextInt(100) - ENTERS[kind];
+        if (pick < 0) {
             enter();
-        } else if (pick < most + 6) {
+        } else if (pick < UNLINKS[kind]) {
             int directory = inode();
             long name = name();
             compare("unlink(" + directory + ", " + name + ")", () -> real.unlink(directory, name) ? 1 : 0,
                     () -> model.unlink(directory, name));
-        } else if (pick < most + 8) {
+        } else if (pick < UNLINKS[kind] + TRUNCATES[kind]) {
             int inode = inode();
             compare("truncate(" + inode + ")", () -> real.truncate(inode) ? 1 : 0, () -> model.truncate(inode));
         } else {
@@ -68,11 +77,18 @@ public final class RandomTest {
         }
     }
 
+    private void makeFiles() {
+        for (int i = 0; i < (kind == 2 ? 10 : 1); i++) {
+            long name = Check.name("n" + i);
+            compare("make(0, " + name + ", false)", () -> real.make(0, name, false), () -> model.make(0, name, false));
+        }
+    }
+
     private void enter() {
         int directory = random.nextInt(3) > 0 ? 0 : inode();
         long name = name();
-        if (kind == 1 && random.nextInt(8) > 0) {
-            int inode = inode();
+        if (kind == 1 ? random.nextInt(40) > 0 : random.nextInt(4) == 0) {
+            int inode = kind == 1 && random.nextInt(8) > 0 ? 1 : inode();
             compare("link(" + directory + ", " + name + ", " + inode + ")",
                     () -> real.link(directory, name, inode) ? 1 : 0, () -> model.link(directory, name, inode));
             return;
@@ -136,7 +152,7 @@ public final class RandomTest {
 
     private int inode() {
         int pick = random.nextInt(20);
-        return pick == 0 ? random.nextInt(50) - 5 : pick < 4 ? random.nextInt(32) : random.nextInt(kind == 2 ? 12 : 5);
+        return pick == 0 ? random.nextInt(50) - 5 : pick < 4 ? random.nextInt(32) : random.nextInt(kind == 2 ? 11 : 5);
     }
 
     private int block() {
