@@ -1,14 +1,10 @@
 import java.util.ArrayList;
-import java.util.Arrays;
 import java.util.List;
 import java.util.function.Consumer;
-import java.util.function.Supplier;
 
 /** A power failure at any write leaves the changes whole or not at all. */
 public final class CrashTest {
-    private static final int CALLS = 512;
     private static final int FIRST_BLOCK = 17;
-    private static final int BYTES = (128 - FIRST_BLOCK) * 64;
 
     private static final List<Consumer<LogFs>> STEPS = steps();
 
@@ -23,7 +19,7 @@ public final class CrashTest {
             int ahead = step;
             PENDING[step] = whole.count(0);
             WRITES[step] = whole.count(3);
-            STATES[step] = state(() -> after(ahead), STEPS.size());
+            STATES[step] = State.memory(() -> after(ahead), STEPS.size(), FIRST_BLOCK);
             STEPS.get(step).accept(whole);
         }
         Check.is("all is committed", whole.count(0), 0);
@@ -60,13 +56,14 @@ public final class CrashTest {
         Check.is(what + ": writes", x.count(3), n);
         Check.is(what + ": mount", x.mount(), isWhole ? pending : 0);
         Check.is(what + ": writes of the mount", x.count(3), n + (isWhole ? pending + 1 : 0));
-        same(what, due, state(() -> mounted(broken(n, step)), STEPS.size() + 3));
+        State.same(what, FIRST_BLOCK, due,
+                State.memory(() -> mounted(broken(n, step)), STEPS.size() + 3, FIRST_BLOCK));
         if (!isWhole) {
             return;
         }
         for (int m : new int[] {0, pending / 2, pending}) {
-            same(what + " and after " + m + " of the mount", due,
-                    state(() -> mounted(brokenAtMount(broken(n, step), m)), STEPS.size() + 5));
+            State.same(what + " and after " + m + " of the mount", FIRST_BLOCK, due,
+                    State.memory(() -> mounted(brokenAtMount(broken(n, step), m)), STEPS.size() + 5, FIRST_BLOCK));
         }
     }
 
@@ -97,27 +94,6 @@ public final class CrashTest {
     private static LogFs mounted(LogFs x) {
         x.mount();
         return x;
-    }
-
-    /** All bytes in memory, of as many objects as are needed to ask none of them too often. */
-    private static int[] state(Supplier<LogFs> source, int used) {
-        int[] bytes = new int[BYTES];
-        int atOnce = CALLS - used;
-        for (int first = 0; first < BYTES; first += atOnce) {
-            LogFs x = source.get();
-            for (int i = first; i < Math.min(BYTES, first + atOnce); i++) {
-                bytes[i] = x.memory(FIRST_BLOCK + i / 64, i % 64);
-            }
-        }
-        return bytes;
-    }
-
-    private static void same(String what, int[] due, int[] got) {
-        int i = Arrays.mismatch(due, got);
-        if (i >= 0) {
-            Check.tell(what + ": byte " + i % 64 + " of block " + (FIRST_BLOCK + i / 64) + " is " + got[i]
-                    + ", due is " + due[i]);
-        }
     }
 
     private static List<Consumer<LogFs>> steps() {

@@ -1,9 +1,14 @@
-/** Promise 9, and what the power's failure leaves. */
+/** Promise 9: what numbers it takes, and when the power fails then. */
 public final class FailAfterTest {
     public static void main(String[] args) {
-        wrongNumbers();
+        belowZero();
+        belowZeroLeavesWhatIsToCome();
+        zero();
+        theMostNumber();
+        eachNumber();
         theLatestCounts();
         overSeveralCommits();
+        overACommitAheadOfACall();
         onlyOnce();
         whileThePowerIsOff();
         Check.end();
@@ -15,19 +20,55 @@ public final class FailAfterTest {
         return x;
     }
 
-    private static void wrongNumbers() {
+    /** "false if n is below 0." */
+    private static void belowZero() {
+        int[] none = {-1, -2, -100, Integer.MIN_VALUE};
+        for (int n : none) {
+            LogFs x = withThreePending();
+            Check.no("failAfter(" + n + ")", x.failAfter(n));
+            Check.is("sync", x.sync(), 8);
+        }
+    }
+
+    /** "Calls that answer false or NONE change nothing". */
+    private static void belowZeroLeavesWhatIsToCome() {
         LogFs x = withThreePending();
+        Check.yes("failAfter(2)", x.failAfter(2));
         Check.no("failAfter(-1)", x.failAfter(-1));
-        Check.no("failAfter", x.failAfter(Integer.MIN_VALUE));
+        Check.powerFails("what was to come still comes", x::sync);
+        Check.is("writes", x.count(3), 2);
+    }
+
+    /** "The power fails when n more writes were done": with 0 at the next write, not ahead of it. */
+    private static void zero() {
+        LogFs x = withThreePending();
+        Check.yes("failAfter(0)", x.failAfter(0));
+        Check.is("the power is on", x.count(5), 0);
+        Check.is("find", x.find(0, Check.name("f")), 1);
+        Check.is("fill", x.fill(1, 0, 1, 1), 1);
+        Check.powerFails("sync", x::sync);
+        Check.is("the power is off", x.count(5), 1);
+        Check.is("writes", x.count(3), 0);
+    }
+
+    private static void theMostNumber() {
+        LogFs x = withThreePending();
+        Check.yes("failAfter", x.failAfter(Integer.MAX_VALUE));
         Check.is("sync", x.sync(), 8);
-        LogFs y = withThreePending();
-        Check.yes("failAfter(2)", y.failAfter(2));
-        Check.no("failAfter(-1)", y.failAfter(-1));
-        Check.powerFails("what was to come still comes", y::sync);
-        Check.is("writes", y.count(3), 2);
-        LogFs z = withThreePending();
-        Check.yes("failAfter", z.failAfter(Integer.MAX_VALUE));
-        Check.is("sync", z.sync(), 8);
+        x.fill(1, 0, 1, 1);
+        Check.yes("failAfter again, with writes behind it", x.failAfter(Integer.MAX_VALUE));
+        Check.is("sync", x.sync(), 8);
+    }
+
+    /** "The power fails when n more writes were done: true". */
+    private static void eachNumber() {
+        for (int n = 0; n < 8; n++) {
+            LogFs x = withThreePending();
+            Check.yes("failAfter(" + n + ")", x.failAfter(n));
+            Check.powerFails("sync", x::sync);
+            Check.is("writes", x.count(3), n);
+            Check.is("the power is off", x.count(5), 1);
+        }
     }
 
     private static void theLatestCounts() {
@@ -43,6 +84,7 @@ public final class FailAfterTest {
         Check.is("writes", y.count(3), 1);
     }
 
+    /** "when n more writes were done", of one commit or of several. */
     private static void overSeveralCommits() {
         LogFs x = withThreePending();
         x.failAfter(8);
@@ -59,6 +101,16 @@ public final class FailAfterTest {
         Check.is("writes", y.count(3), 9);
     }
 
+    private static void overACommitAheadOfACall() {
+        LogFs x = Disks.withPending(11);
+        x.failAfter(25);
+        Check.is("fill", x.fill(1, 0, 1, 1), 960);
+        Check.powerFails("sync", x::sync);
+        x.mount();
+        Check.is("what was ahead of the call is whole", x.read(1, 0), 9);
+    }
+
+    /** A failure that came is no longer to come. */
     private static void onlyOnce() {
         LogFs x = withThreePending();
         x.failAfter(0);
@@ -68,6 +120,7 @@ public final class FailAfterTest {
         Check.is("sync", x.sync(), 8);
     }
 
+    /** It has no exception, so that it can tell when a mount fails. */
     private static void whileThePowerIsOff() {
         LogFs x = withThreePending();
         x.failAfter(4);

@@ -1,4 +1,4 @@
-/** Promise 10. */
+/** Promise 10; PowerTest has what a mount writes. */
 public final class MountTest {
     public static void main(String[] args) {
         withThePowerOn();
@@ -7,10 +7,13 @@ public final class MountTest {
         withALogOfOneBlock();
         failsInBetween();
         theLogInMemory();
-        aFailureStillToCome();
+        aFailureThatDidNotComeIsStillToCome();
+        aFailureThatCameIsNotToComeAgain();
+        aFailureThatIsToComeBehindTheMount();
         Check.end();
     }
 
+    /** "(what is pending is gone, if it was on)". */
     private static void withThePowerOn() {
         LogFs x = Disks.withFile();
         x.fill(1, 0, 1, 64);
@@ -25,6 +28,7 @@ public final class MountTest {
         Check.is("no commit", x.count(4), 1);
     }
 
+    /** "MOUNT, with the power on": it is on behind it, and none came from the log. */
     private static void withoutALog() {
         LogFs x = Disks.withoutPower();
         Check.is("mount", x.mount(), 0);
@@ -43,6 +47,7 @@ public final class MountTest {
         return x;
     }
 
+    /** "how many blocks came from the log." */
     private static void withALog() {
         LogFs x = withHeadOnly();
         Check.is("mount", x.mount(), 3);
@@ -55,6 +60,7 @@ public final class MountTest {
         Check.is("writes", x.count(3), 8);
     }
 
+    /** "if the HEAD has n above 0". */
     private static void withALogOfOneBlock() {
         LogFs x = Disks.withFile();
         x.fill(1, 0, 1, 1);
@@ -69,6 +75,7 @@ public final class MountTest {
         Check.is("read", x.read(1, 0), 2);
     }
 
+    /** "UnsupportedOperationException if the power fails." */
     private static void failsInBetween() {
         for (int n = 0; n < 4; n++) {
             LogFs x = withHeadOnly();
@@ -87,6 +94,7 @@ public final class MountTest {
         }
     }
 
+    /** "Memory is as the disk then", its log too. */
     private static void theLogInMemory() {
         LogFs x = Disks.withFile();
         x.mount();
@@ -94,18 +102,38 @@ public final class MountTest {
         Check.memory("memory is as the disk", x, 2, 16, 1, 1);
     }
 
-    private static void aFailureStillToCome() {
+    /** "(A failure that was to come and did not is still to come.)" */
+    private static void aFailureThatDidNotComeIsStillToCome() {
         LogFs x = Disks.withFile();
         x.failAfter(1);
         Check.is("mount", x.mount(), 0);
+        Check.is("mount again", x.mount(), 0);
         x.fill(1, 0, 1, 1);
         Check.powerFails("sync", x::sync);
         Check.is("writes", x.count(3), 9);
+    }
+
+    private static void aFailureThatCameIsNotToComeAgain() {
+        LogFs x = withHeadOnly();
+        Check.is("mount", x.mount(), 3);
+        x.fill(1, 0, 1, 1);
+        Check.is("sync", x.sync(), 8);
         LogFs y = withHeadOnly();
-        y.failAfter(4);
-        Check.is("mount", y.mount(), 3);
+        y.failAfter(0);
+        Check.powerFails("mount", y::mount);
+        Check.is("mount again", y.mount(), 3);
         y.fill(1, 0, 1, 1);
-        Check.powerFails("sync", y::sync);
-        Check.is("writes", y.count(3), 8);
+        Check.is("sync", y.sync(), 8);
+    }
+
+    /** "(A failure that was to come and did not is still to come.)": the mount's own writes count. */
+    private static void aFailureThatIsToComeBehindTheMount() {
+        LogFs x = withHeadOnly();
+        x.failAfter(4);
+        Check.is("mount", x.mount(), 3);
+        Check.is("the power is on", x.count(5), 0);
+        x.fill(1, 0, 1, 1);
+        Check.powerFails("sync", x::sync);
+        Check.is("writes", x.count(3), 8);
     }
 }
