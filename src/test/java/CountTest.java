@@ -12,6 +12,7 @@ public final class CountTest {
         anotherWhat();
         noPendingBlock();
         withThePowerOff();
+        upToTheLastCall();
         Check.end();
     }
 
@@ -172,5 +173,18 @@ public final class CountTest {
         Check.is("count(100)", x.count(100), LogFs.NONE);
         x.mount();
         Check.is("count(0) with the power on again", x.count(0), 0);
+    }
+
+    /** "An object is used for at most 512 calls": the last two of them still tell all writes and commits. */
+    private static void upToTheLastCall() {
+        LogFs x = new LogFs();
+        x.make(0, Check.name("f"), false);
+        x.sync();
+        for (int i = 0; i < 254; i++) {
+            x.fill(1, 0, i, 1);
+            x.sync();
+        }
+        Check.is("writes", x.count(3), 8 + 8 + 253 * 4);
+        Check.is("commits", x.count(4), 255);
     }
 }

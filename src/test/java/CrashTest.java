@@ -61,9 +61,10 @@ public final class CrashTest {
         if (!isWhole) {
             return;
         }
-        for (int m : new int[] {0, pending / 2, pending}) {
+        for (int m = 0; m <= pending; m++) {
+            int done = m;
             State.same(what + " and after " + m + " of the mount", FIRST_BLOCK, due,
-                    State.memory(() -> mounted(brokenAtMount(broken(n, step), m)), STEPS.size() + 5, FIRST_BLOCK));
+                    State.memory(() -> mounted(brokenAtMount(broken(n, step), done)), STEPS.size() + 5, FIRST_BLOCK));
         }
     }
 

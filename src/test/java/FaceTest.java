@@ -6,26 +6,30 @@ import java.lang.reflect.Modifier;
 import java.util.Arrays;
 import java.util.Set;
 import java.util.TreeSet;
+import java.util.stream.Collectors;
 
 /** The members of the class are those of the document, and no others can be seen. */
 public final class FaceTest {
+    private static final String CHANGES = " throws IllegalStateException, UnsupportedOperationException";
+    private static final String READS = " throws IllegalStateException, IndexOutOfBoundsException";
+
     private static final String[] DUE = {
         "public static final int NONE",
         "public LogFs()",
-        "public int make(int, long, boolean)",
-        "public boolean link(int, long, int)",
-        "public boolean unlink(int, long)",
-        "public int write(int, int, long, int)",
-        "public int fill(int, int, int, int)",
-        "public boolean truncate(int)",
-        "public int sync()",
+        "public int make(int, long, boolean)" + CHANGES,
+        "public boolean link(int, long, int)" + CHANGES,
+        "public boolean unlink(int, long)" + CHANGES,
+        "public int write(int, int, long, int)" + CHANGES,
+        "public int fill(int, int, int, int)" + CHANGES,
+        "public boolean truncate(int)" + CHANGES,
+        "public int sync()" + CHANGES,
         "public boolean failAfter(int)",
-        "public int mount()",
-        "public int find(int, long)",
-        "public int read(int, int)",
-        "public int look(int, int)",
-        "public int disk(int, int)",
-        "public int memory(int, int)",
+        "public int mount() throws UnsupportedOperationException",
+        "public int find(int, long) throws IllegalStateException",
+        "public int read(int, int)" + READS,
+        "public int look(int, int)" + READS,
+        "public int disk(int, int) throws IndexOutOfBoundsException",
+        "public int memory(int, int)" + READS,
         "public int count(int)",
     };
 
@@ -41,7 +45,7 @@ public final class FaceTest {
         }
         for (Method method : LogFs.class.getDeclaredMethods()) {
             addIfSeen(seen, method, head(method) + method.getReturnType().getSimpleName() + " " + method.getName()
-                    + parameters(method.getParameterTypes()));
+                    + parameters(method.getParameterTypes()) + exceptions(method));
             Check.yes("one method alone is named " + method.getName(), names.add(method.getName()));
         }
         if (!seen.equals(due)) {
@@ -67,11 +71,16 @@ public final class FaceTest {
         return modifiers.isEmpty() ? "" : modifiers + " ";
     }
 
+    private static String exceptions(Method method) {
+        Class<?>[] types = method.getExceptionTypes();
+        return types.length == 0 ? "" : " throws " + names(types);
+    }
+
     private static String parameters(Class<?>[] types) {
-        StringBuilder text = new StringBuilder("(");
-        for (int i = 0; i < types.length; i++) {
-            text.append(i == 0 ? "" : ", ").append(types[i].getSimpleName());
-        }
-        return text.append(")").toString();
+        return "(" + names(types) + ")";
+    }
+
+    private static String names(Class<?>[] types) {
+        return Arrays.stream(types).map(Class::getSimpleName).collect(Collectors.joining(", "));
     }
 }

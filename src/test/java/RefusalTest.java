@@ -21,16 +21,30 @@ public final class RefusalTest {
     }
 
     public static void main(String[] args) {
-        refuse("nothing pending", () -> Disks.withPending(0), ordinary());
-        refuse("eleven pending", () -> Disks.withPending(11), ordinary());
-        refuse("a full disk", RefusalTest::pendingOnFullDisk, onFullDisk());
-        refuse("one free block", () -> Disks.withFreeBlocks(1), withOneFreeBlock());
-        refuse("a long root and one free block", () -> Disks.withLongRootAndFreeBlocks(1), withLongRoot());
-        refuse("a full directory", RefusalTest::fullDirectory, withFullDirectory());
-        refuse("no free inode", RefusalTest::noFreeInode, withoutInodes());
-        refuse("200 links", RefusalTest::mostLinks, withMostLinks());
-        refuse("1000 bytes", RefusalTest::longFile, withLongFile());
+        refuseAll("few files", () -> Disks.withPending(0), ordinary());
+        refuseAll("a full disk", () -> Disks.withFreeBlocks(0), onFullDisk());
+        refuseAll("one free block", () -> Disks.withFreeBlocks(1), withOneFreeBlock());
+        refuseAll("a long root and one free block", () -> Disks.withLongRootAndFreeBlocks(1), withLongRoot());
+        refuseAll("a full directory", RefusalTest::fullDirectory, withFullDirectory());
+        refuseAll("no free inode", RefusalTest::noFreeInode, withoutInodes());
+        refuseAll("200 links", RefusalTest::mostLinks, withMostLinks());
+        refuseAll("1000 bytes", RefusalTest::longFile, withLongFile());
         Check.end();
+    }
+
+    private static void refuseAll(String state, Supplier<LogFs> source, List<Refusal> refusals) {
+        refuse(state, source, refusals);
+        refuse(state + ", eleven pending", () -> withElevenPending(source.get()), refusals);
+    }
+
+    /** File 1 has eleven blocks and more in all states, so that a call that changes something has a commit ahead. */
+    private static LogFs withElevenPending(LogFs x) {
+        x.sync();
+        for (int i = 0; i < 11; i++) {
+            x.fill(1, 64 * i, 9, 1);
+        }
+        Check.is("pending", x.count(0), 11);
+        return x;
     }
 
     private static void refuse(String state, Supplier<LogFs> source, List<Refusal> refusals) {
@@ -90,15 +104,6 @@ public final class RefusalTest {
         all.add(new Refusal("find no entry", x -> x.find(0, A)));
         all.add(new Refusal("count of no such", x -> x.count(7)));
         return all;
-    }
-
-    /** Ten blocks of "f1" are pending, then an eleventh. */
-    private static LogFs pendingOnFullDisk() {
-        LogFs x = Disks.withFreeBlocks(0);
-        for (int i = 0; i < 11; i++) {
-            x.fill(1, 64 * i, 1, 1);
-        }
-        return x;
     }
 
     private static List<Refusal> onFullDisk() {

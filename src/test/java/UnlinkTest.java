@@ -185,9 +185,15 @@ public final class UnlinkTest {
     }
 
     private static void commitsAhead() {
-        LogFs x = Disks.withFile();
+        LogFs x = new LogFs();
+        x.make(0, Check.name("f"), false);
+        x.make(0, Check.name("d"), true);
+        x.make(2, Check.name("in"), false);
+        x.sync();
         Disks.addBlocks(x, 1, 9);
+        Check.is("pending", x.count(0), 11);
         Check.no("a refused one", x.unlink(0, Check.name("g")));
+        Check.no("a refused directory", x.unlink(0, Check.name("d")));
         Check.is("no commit for it", x.count(4), 1);
         Check.yes("unlink", x.unlink(0, Check.name("f")));
         Check.is("a commit ahead", x.count(4), 2);
