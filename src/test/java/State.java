@@ -1,7 +1,7 @@
 import java.util.Arrays;
 import java.util.function.Supplier;
 
-/** All that the calls can tell of an object, asked of several objects made alike, for one may be asked only so often. */
+/** All that the calls can tell of an object, asked of several made alike, for one may be asked only so often. */
 final class State {
     private static final int CALLS = 512;
     private static final int BLOCK_BYTES = 64;
